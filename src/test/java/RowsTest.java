@@ -88,6 +88,8 @@ public final class RowsTest {
             tell(x, rows, 2 * n + 1);
             Due.is("wrong at " + wrong + " and one too many", x.check(n), 1 + wrong);
             rows[wrong]--;
+            tell(x, rows, 2 * n);
+            Due.is("right again", x.check(n), 0);
             tell(x, rows, wrong);
             Due.is("missing from " + wrong, x.check(n), 1 + wrong);
         }

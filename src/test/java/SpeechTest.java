@@ -70,7 +70,10 @@ public final class SpeechTest {
         x.set(2, 2, 11);
         x.set(3, 2, 11);
         Due.is("two are cheaper", x.cheapest(0, 3, 1), 3);
-        Due.is("all", x.cheapest(0, 7, 1), 19);
+        Due.is("three", x.cheapest(0, 7, 1), 19);
+        x = withTwo(new int[] {0, 1, 5, 1}, new int[] {0, 2, 6, 1}, new int[] {0, 4, 7, 1});
+        Due.is("all", x.cheapest(0, 7, 1), 7);
+        Due.is("sum of all", x.cheapest(0, 7, 0), 18);
     }
 
     private static void cheapestByWhatIsHeld() {

@@ -181,7 +181,16 @@ public final class TextsTest {
         fault("(d", 0);
         fault("  law 1", 2);
         fault("dutyd", 0);
+        fault("dutyz d", 0);
+        fault("dutya d", 0);
+        fault("auty d", 0);
+        fault("daty d", 0);
+        fault("duny d", 0);
+        fault("dutx d", 0);
+        fault("dill p", 0);
         fault("duty5", 4);
+        fault("duty0", 4);
+        fault("duty9", 4);
         fault("duty 5d", 6);
         fault("duty d5", 6);
         fault("duty d d", 7);
