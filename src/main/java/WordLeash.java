@@ -1134,6 +1134,7 @@ public final class WordLeash {
 
         private void piece(int brackets, int nots) {
             int sign = signHere();
+            // One more than may be open is no leaf either, so it ends as a FAULT at its own place.
             if (sign == '!' && nots < MOST_OPEN) {
                 advance();
                 piece(brackets, nots + 1);
