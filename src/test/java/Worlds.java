@@ -2,10 +2,11 @@ import java.lang.reflect.Method;
 import java.util.ArrayList;
 import java.util.Arrays;
 import java.util.List;
+import java.util.function.Supplier;
 
 /** Objects that tests start from, calls told by their text, and all that can be read of an object. */
 final class Worlds {
-    private static final int TAPE = 9, DAYS_THAT_WAIT = 3;
+    private static final int DAYS_THAT_WAIT = 3, SLOTS = 5, SHEETS = 4;
 
     private Worlds() {
     }
@@ -19,6 +20,24 @@ final class Worlds {
 
     static WordLeash readyWithoutRows() {
         WordLeash x = kept();
+        goOn(x);
+        return x;
+    }
+
+    /** The same, but that there is no image; what waits is right for what is now. */
+    static WordLeash neverKept() {
+        WordLeash x = neverKeptWithoutRows();
+        tellRows(x, daysTold(neverKeptWithoutRows(), DAYS_THAT_WAIT));
+        return x;
+    }
+
+    static WordLeash neverKeptWithoutRows() {
+        WordLeash x = started();
+        goOn(x);
+        return x;
+    }
+
+    private static void goOn(WordLeash x) {
         x.cross(1, 7);
         x.turns(0, 3);
         x.set(1, 3, 0);
@@ -32,10 +51,15 @@ final class Worlds {
         x.lay(2, 2, 1);
         x.lay(3, 3, -77);
         tape(x, "bill p*3-n");
-        return x;
     }
 
     private static WordLeash kept() {
+        WordLeash x = started();
+        x.keep();
+        return x;
+    }
+
+    private static WordLeash started() {
         WordLeash x = new WordLeash();
         x.seed(41);
         x.deal(4);
@@ -49,7 +73,6 @@ final class Worlds {
         x.cross(0, 19);
         x.days(2);
         text(x, "bill p+n");
-        x.keep();
         return x;
     }
 
@@ -79,8 +102,11 @@ final class Worlds {
         x.mark(3, 23, 23);
         x.sheet(0, 1, 24);
         x.mark(0, 0, WordLeash.NONE);
-        for (int slot = 0; slot < 5; slot++) {
-            x.lay(slot, 1 + slot % 3, slot % 3 == 1 ? 3 : 8);
+        x.sheet(1, 1, 24);
+        x.sheet(2, 0, 0);
+        for (int slot = 0; slot < SLOTS; slot++) {
+            int[] things = {1, 1, 2, 3, 2};
+            x.lay(slot, things[slot], slot == 2 ? 3 : slot == 4 ? 0 : 8);
         }
         tape(x, "bill " + "p+n-".repeat(22) + "p*7");
         return x;
@@ -152,29 +178,54 @@ final class Worlds {
         };
     }
 
-    /** All but sheets and slots; uses up what it reads. */
-    static List<Integer> readBorder(WordLeash x) {
+    /**
+     * All that can be read of objects that are made alike. Where reading needs a call that may be refused, or that uses
+     * something up, an object of its own is read, so that nothing that is read hides what an earlier call did.
+     */
+    static List<Integer> read(Supplier<WordLeash> make) {
         List<Integer> all = new ArrayList<>();
-        readNow(x, all);
-        all.add(x.check(x.count(8) / 2));
-        all.add(x.text());
-        readBills(x, all);
+        readTape(make.get(), all);
+        WordLeash x = make.get();
+        all.add(x.check(Math.max(1, x.count(8) / 2)));
+        x = make.get();
+        x.keep();
+        all.add(x.check(Math.max(1, x.count(8) / 2)));
+        x = make.get();
         all.add(x.back());
         readNow(x, all);
+        for (int slot = 0; slot < SLOTS; slot++) {
+            readSlot(make, slot, all);
+        }
+        for (int sheet = 0; sheet < SHEETS; sheet++) {
+            readSheet(make, sheet, all);
+        }
         return all;
+    }
+
+    private static void readTape(WordLeash x, List<Integer> all) {
+        readNow(x, all);
+        all.add(x.text());
+        readNow(x, all);
     }
 
     private static void readNow(WordLeash x, List<Integer> all) {
         for (int what = 0; what <= 10; what++) {
             all.add(x.count(what));
         }
-        for (int word = 0; word < 10; word++) {
+        int words = x.count(0);
+        int travellers = x.count(1);
+        int texts = x.count(7);
+        for (int word = 0; word < words; word++) {
             for (int what = 0; what <= 8; what++) {
                 all.add(x.told(word, what));
             }
         }
-        readBills(x, all);
-        for (int text = 0; text < 14; text++) {
+        for (int traveller = 0; traveller < travellers; traveller++) {
+            all.add(x.travels(traveller, 0));
+            all.add(x.travels(traveller, 1));
+            all.add(x.bill(traveller));
+        }
+        for (int text = 0; text < texts; text++) {
             all.add(x.textTold(text, 0) * 100 + x.textTold(text, 1));
         }
         for (int key = 0; key < 3; key++) {
@@ -185,38 +236,27 @@ final class Worlds {
         all.add(x.fine());
     }
 
-    private static void readBills(WordLeash x, List<Integer> all) {
-        for (int traveller = 0; traveller < 6; traveller++) {
-            all.add(x.travels(traveller, 0));
-            all.add(x.travels(traveller, 1));
-            all.add(x.bill(traveller));
+    private static void readSlot(Supplier<WordLeash> make, int slot, List<Integer> all) {
+        WordLeash x = make.get();
+        for (int kind = 0; kind < 6; kind++) {
+            all.add(x.ask(slot, kind));
         }
+        readPlaces(make.get(), slot, all);
+        x = make.get();
+        all.add(x.rest(slot, 65536));
+        all.add(x.rest(slot, 99991));
+        all.add(make.get().lay(slot, 0, 0));
     }
 
-    /** Slots, then sheets; lays and makes sheets anew on the way. */
-    static List<Integer> readRows(WordLeash x) {
-        List<Integer> all = new ArrayList<>();
-        for (int slot = 0; slot < 5; slot++) {
-            for (int kind = 0; kind < 6; kind++) {
-                all.add(x.ask(slot, kind));
-            }
-            readPlaces(x, slot, all);
-            all.add(x.rest(slot, 65536));
-            all.add(x.rest(slot, 99991));
-        }
-        for (int sheet = 0; sheet < 4; sheet++) {
-            all.add(x.lay(0, 2, sheet));
-            readPlaces(x, 0, all);
-            x.lay(0, 0, 0);
-        }
-        for (int sheet = 0; sheet < 4; sheet++) {
-            all.add(x.mark(sheet, 0, WordLeash.NONE));
-        }
-        for (int sheet = 0; sheet < 3; sheet++) {
-            x.sheet(3, 0, 0);
-            all.add(x.copy(sheet, 0, 3, 0, 0));
-        }
-        return all;
+    private static void readSheet(Supplier<WordLeash> make, int sheet, List<Integer> all) {
+        WordLeash x = make.get();
+        all.add(x.lay(0, 2, sheet));
+        readPlaces(x, 0, all);
+        all.add(make.get().mark(sheet, 0, WordLeash.NONE));
+        x = make.get();
+        int other = (sheet + 1) % SHEETS;
+        x.sheet(other, 0, 0);
+        all.add(x.copy(sheet, 0, other, 0, 0));
     }
 
     private static void readPlaces(WordLeash x, int slot, List<Integer> all) {
