@@ -686,7 +686,7 @@ public final class WordLeash {
         }
     }
 
-    /** All that AN IMAGE keeps. TEXTS are only ever added behind those of THE IMAGE, so how many there are is enough. */
+    /** All that AN IMAGE keeps. TEXTS are only added behind those of THE IMAGE, so how many there are is enough. */
     private static final class Border {
         private static final int MOST_COSTS = 999;
 
